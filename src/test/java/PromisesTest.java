@@ -5,21 +5,6 @@ public final class PromisesTest {
     private static final int MARK_0 = 256;
     private static final int MARK_7 = 4660;
 
-    // Some of these are right once they are cut to 16 bits, 8 bits or 3 bits.
-    private static final int[] NO_STATES = {
-        0, -1, -5, -65535, -65536, 65536, 65537, 131071, 1 << 30,
-        Integer.MIN_VALUE, Integer.MIN_VALUE + 1, Integer.MAX_VALUE};
-    private static final int[] NO_MARKS = {
-        -1, -2, -8, 8, 9, 15, 16, 32, 256, 65536, Integer.MIN_VALUE, Integer.MAX_VALUE};
-    private static final int[] NO_JUMPS = {
-        -100001, -100002, -165535, 100001, 100002, 165535, 1 << 30,
-        Integer.MIN_VALUE, Integer.MIN_VALUE + 1, Integer.MAX_VALUE};
-    private static final int[] NO_COUNTS = {
-        -1, -2, -100000, -100001, 100001, 100002, 165535, 1 << 30,
-        Integer.MIN_VALUE, Integer.MIN_VALUE + 1, Integer.MAX_VALUE};
-    private static final int[] NO_BITS = {
-        -1, -2, -32, 9, 10, 16, 17, 32, 33, 40, Integer.MIN_VALUE, Integer.MAX_VALUE};
-
     public static void main(String[] args) {
         promise1NewObject();
         promise2Seed();
@@ -84,7 +69,7 @@ public final class PromisesTest {
 
     private static void promise2Seed() {
         JumpGenerator g = prepared();
-        for (int s : NO_STATES) {
+        for (int s : Wrong.STATES) {
             Due.is("2: seed(" + s + ")", g.seed(s), false);
             Due.is("2: state() after seed(" + s + ")", g.state(), START);
         }
@@ -137,7 +122,7 @@ public final class PromisesTest {
 
     private static void promise5Jump() {
         JumpGenerator g = prepared();
-        for (int n : NO_JUMPS) {
+        for (int n : Wrong.JUMPS) {
             Due.is("5: jump(" + n + ")", g.jump(n), NONE);
             Due.is("5: state() after jump(" + n + ")", g.state(), START);
         }
@@ -151,7 +136,7 @@ public final class PromisesTest {
 
     private static void promise6Peek() {
         JumpGenerator g = prepared();
-        for (int n : NO_JUMPS) {
+        for (int n : Wrong.JUMPS) {
             Due.is("6: peek(" + n + ")", g.peek(n), NONE);
         }
         for (int[] row : FROM_START) {
@@ -163,7 +148,7 @@ public final class PromisesTest {
 
     private static void promise7Mark() {
         JumpGenerator g = prepared();
-        for (int m : NO_MARKS) {
+        for (int m : Wrong.MARKS) {
             Due.is("7: mark(" + m + ")", g.mark(m), false);
         }
         unchanged("7", g);
@@ -183,7 +168,7 @@ public final class PromisesTest {
 
     private static void promise8Back() {
         JumpGenerator g = prepared();
-        for (int m : NO_MARKS) {
+        for (int m : Wrong.MARKS) {
             Due.is("8: back(" + m + ")", g.back(m), false);
             Due.is("8: state() after back(" + m + ")", g.state(), START);
         }
@@ -206,7 +191,7 @@ public final class PromisesTest {
 
     private static void promise9Distance() {
         JumpGenerator g = prepared();
-        for (int s : NO_STATES) {
+        for (int s : Wrong.STATES) {
             Due.is("9: distance(" + s + ")", g.distance(s), NONE);
         }
         int[][] rows = {{START, 0}, {21930, 1}, {27370, 2}, {27349, 65534}, {64138, 65533},
@@ -222,7 +207,7 @@ public final class PromisesTest {
 
     private static void promise10Between() {
         JumpGenerator g = prepared();
-        for (int m : NO_MARKS) {
+        for (int m : Wrong.MARKS) {
             Due.is("10: between(" + m + ", 0)", g.between(m, 0), NONE);
             Due.is("10: between(7, " + m + ")", g.between(7, m), NONE);
             Due.is("10: between(" + m + ", " + m + ")", g.between(m, m), NONE);
@@ -248,7 +233,7 @@ public final class PromisesTest {
 
     private static void promise11Mixed() {
         JumpGenerator g = prepared();
-        for (int n : NO_COUNTS) {
+        for (int n : Wrong.COUNTS) {
             Due.is("11: mixed(" + n + ")", g.mixed(n), NONE);
         }
         int[][] rows = {{0, 0}, {1, START}, {2, 255}, {3, 27157}, {10, 61696}, {65534, 27349},
@@ -270,11 +255,11 @@ public final class PromisesTest {
 
     private static void promise13Before() {
         JumpGenerator g = prepared();
-        for (int s : NO_STATES) {
+        for (int s : Wrong.STATES) {
             Due.is("13: before(" + s + ", 1)", g.before(s, 1), NONE);
             Due.is("13: before(" + s + ", 0)", g.before(s, 0), NONE);
         }
-        for (int n : NO_COUNTS) {
+        for (int n : Wrong.COUNTS) {
             Due.is("13: before(1, " + n + ")", g.before(1, n), NONE);
             Due.is("13: before(0, " + n + ")", g.before(0, n), NONE);
         }
@@ -290,12 +275,12 @@ public final class PromisesTest {
 
     private static void promise14Apart() {
         JumpGenerator g = prepared();
-        for (int s : NO_STATES) {
+        for (int s : Wrong.STATES) {
             Due.is("14: apart(" + s + ", 1, 1)", g.apart(s, 1, 1), NONE);
             Due.is("14: apart(65535, " + s + ", 0)", g.apart(65535, s, 0), NONE);
             Due.is("14: apart(" + s + ", " + s + ", 0)", g.apart(s, s, 0), NONE);
         }
-        for (int n : NO_COUNTS) {
+        for (int n : Wrong.COUNTS) {
             Due.is("14: apart(1, 2, " + n + ")", g.apart(1, 2, n), NONE);
             Due.is("14: apart(9, 9, " + n + ")", g.apart(9, 9, n), NONE);
         }
@@ -311,7 +296,7 @@ public final class PromisesTest {
 
     private static void promise15NextRound() {
         JumpGenerator g = prepared();
-        for (int k : NO_BITS) {
+        for (int k : Wrong.BITS) {
             Due.is("15: nextRound(" + k + ")", g.nextRound(k), NONE);
         }
         int[] rounds = {0, 1, 6, 6, 6, 11, 11, 201, 201};
