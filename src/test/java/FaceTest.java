@@ -46,6 +46,9 @@ public final class FaceTest {
         int modifiers = JumpGenerator.class.getModifiers();
         Due.is("public", Modifier.isPublic(modifiers), true);
         Due.is("final", Modifier.isFinal(modifiers), true);
+        Due.is("extends Object alone", JumpGenerator.class.getSuperclass() == Object.class, true);
+        Due.is("interfaces", JumpGenerator.class.getInterfaces().length, 0);
+        Due.is("classes inside", JumpGenerator.class.getDeclaredClasses().length, 0);
         Due.is("NONE", JumpGenerator.NONE, -1);
         Due.end();
     }

@@ -53,6 +53,7 @@ public final class PromisesTest {
     }
 
     private static void promise1NewObject() {
+        Due.sentence("1 new object: \"State 1, no marks\"");
         JumpGenerator g = new JumpGenerator();
         Due.is("1: state()", g.state(), 1);
         for (int m = 0; m < 8; m++) {
@@ -68,6 +69,7 @@ public final class PromisesTest {
     }
 
     private static void promise2Seed() {
+        Due.sentence("2 seed: \"Makes s the current state and answers true; false, changing nothing, when ..\"");
         JumpGenerator g = prepared();
         for (int s : Wrong.STATES) {
             Due.is("2: seed(" + s + ")", g.seed(s), false);
@@ -83,6 +85,7 @@ public final class PromisesTest {
     }
 
     private static void promise3State() {
+        Due.sentence("3 state: \"The current state\"");
         JumpGenerator g = prepared();
         Due.is("3: state()", g.state(), START);
         Due.is("3: state() again", g.state(), START);
@@ -93,19 +96,29 @@ public final class PromisesTest {
         Due.is("3: state() after jump(-1)", g.state(), MARK_7);
         g.back(0);
         Due.is("3: state() after back(0)", g.state(), MARK_0);
+        g.seed(65535);
+        Due.is("3: state() after seed(65535)", g.state(), 65535);
+        g.mark(4);
+        Due.is("3: state() after mark(4)", g.state(), 65535);
+        g.peek(3);
+        Due.is("3: state() after peek(3)", g.state(), 65535);
     }
 
     private static void promise4Next() {
+        Due.sentence("4 next: \"Steps once and answers the new state\"");
         JumpGenerator g = new JumpGenerator();
         int[] after1 = {33153, 24609};
         for (int x : after1) {
             Due.is("4: next()", g.next(), x);
             Due.is("4: state() after next()", g.state(), x);
         }
-        Due.is("4: next() at 65535", at(65535).next(), 32639);
-        Due.is("4: next() at 32768", at(32768).next(), 49216);
-        Due.is("4: next() at 256", at(256).next(), 49472);
-        Due.is("4: next() at 49537", at(49537).next(), 1);
+        int[][] rows = {{65535, 32639}, {32768, 49216}, {256, 49472}, {49537, 1}};
+        for (int[] row : rows) {
+            JumpGenerator stepped = at(row[0]);
+            Due.is("4: next() at " + row[0], stepped.next(), row[1]);
+            Due.is("4: state() after next() at " + row[0], stepped.state(), row[1]);
+            Due.is("4: distance() back to " + row[0], stepped.distance(row[0]), 65534);
+        }
         JumpGenerator kept = prepared();
         kept.next();
         kept.next();
@@ -121,6 +134,7 @@ public final class PromisesTest {
         {99999, 51632}, {-99999, 31929}, {100000, 43448}, {-100000, 59483}};
 
     private static void promise5Jump() {
+        Due.sentence("5 jump: \"Goes n steps .., and answers the new state; NONE, changing nothing, when ..\"");
         JumpGenerator g = prepared();
         for (int n : Wrong.JUMPS) {
             Due.is("5: jump(" + n + ")", g.jump(n), NONE);
@@ -135,6 +149,7 @@ public final class PromisesTest {
     }
 
     private static void promise6Peek() {
+        Due.sentence("6 peek: \"The state n steps from the current one ..; NONE when ..\"");
         JumpGenerator g = prepared();
         for (int n : Wrong.JUMPS) {
             Due.is("6: peek(" + n + ")", g.peek(n), NONE);
@@ -147,6 +162,7 @@ public final class PromisesTest {
     }
 
     private static void promise7Mark() {
+        Due.sentence("7 mark: \"Puts the current state into mark m and answers true; false when ..\"");
         JumpGenerator g = prepared();
         for (int m : Wrong.MARKS) {
             Due.is("7: mark(" + m + ")", g.mark(m), false);
@@ -167,6 +183,7 @@ public final class PromisesTest {
     }
 
     private static void promise8Back() {
+        Due.sentence("8 back: \"Makes the state of mark m the current one and answers true; false when ..\"");
         JumpGenerator g = prepared();
         for (int m : Wrong.MARKS) {
             Due.is("8: back(" + m + ")", g.back(m), false);
@@ -190,6 +207,7 @@ public final class PromisesTest {
     }
 
     private static void promise9Distance() {
+        Due.sentence("9 distance: \"from the current state to the state s; NONE when ..\"");
         JumpGenerator g = prepared();
         for (int s : Wrong.STATES) {
             Due.is("9: distance(" + s + ")", g.distance(s), NONE);
@@ -206,6 +224,7 @@ public final class PromisesTest {
     }
 
     private static void promise10Between() {
+        Due.sentence("10 between: \"from the state of mark m to that of mark n; NONE when ..\"");
         JumpGenerator g = prepared();
         for (int m : Wrong.MARKS) {
             Due.is("10: between(" + m + ", 0)", g.between(m, 0), NONE);
@@ -232,6 +251,7 @@ public final class PromisesTest {
     }
 
     private static void promise11Mixed() {
+        Due.sentence("11 mixed: \"The exclusive or of the current state and ..; NONE when ..\"");
         JumpGenerator g = prepared();
         for (int n : Wrong.COUNTS) {
             Due.is("11: mixed(" + n + ")", g.mixed(n), NONE);
@@ -245,6 +265,7 @@ public final class PromisesTest {
     }
 
     private static void promise12Period() {
+        Due.sentence("12 period: \"The number of steps after which the current state comes again\"");
         JumpGenerator g = prepared();
         Due.is("12: period()", g.period(), 65535);
         unchanged("12", g);
@@ -254,6 +275,7 @@ public final class PromisesTest {
     }
 
     private static void promise13Before() {
+        Due.sentence("13 before: \"The state from which n steps lead to the state s; NONE when ..\"");
         JumpGenerator g = prepared();
         for (int s : Wrong.STATES) {
             Due.is("13: before(" + s + ", 1)", g.before(s, 1), NONE);
@@ -274,6 +296,7 @@ public final class PromisesTest {
     }
 
     private static void promise14Apart() {
+        Due.sentence("14 apart: \"The exclusive or of the states ..; NONE when ..\"");
         JumpGenerator g = prepared();
         for (int s : Wrong.STATES) {
             Due.is("14: apart(" + s + ", 1, 1)", g.apart(s, 1, 1), NONE);
@@ -295,6 +318,7 @@ public final class PromisesTest {
     }
 
     private static void promise15NextRound() {
+        Due.sentence("15 nextRound: \"The least n ..; NONE when ..\"");
         JumpGenerator g = prepared();
         for (int k : Wrong.BITS) {
             Due.is("15: nextRound(" + k + ")", g.nextRound(k), NONE);
